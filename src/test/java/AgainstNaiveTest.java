@@ -202,8 +202,9 @@ public final class AgainstNaiveTest {
             same("cash", x.cash(h, b, v), y.cash(h, b, v));
         }
         boolean slow = run % 4 == 0;
-        while (calls < CALLS - 50) {
-            change(slow && below(4) > 0 ? 9 : below(18));
+        boolean crowd = run % 6 == 1;
+        while (calls < CALLS - 60) {
+            change(slow && below(4) > 0 ? 9 : crowd && below(3) > 0 ? below(30) == 0 ? 9 : 0 : below(18));
             for (int n = below(slow ? 4 : 3); n > 0; n--) {
                 ask(below(28));
             }

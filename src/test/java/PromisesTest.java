@@ -214,6 +214,18 @@ public final class PromisesTest {
             due("fault(1): no such one", x.fault(1), -1);
             no("end(1): the tape is empty", x.end(1));
         }
+        // a full tape: 197 times one more
+        StringBuilder full = new StringBuilder("fee 1");
+        while (full.length() < 399) {
+            full.append("+1");
+        }
+        stands(x, 0, full + ";", 1);
+        x.image(true);
+        x.pay(1, 0, 2, 2, 7);
+        x.day();
+        due("sums(3)", x.sums(3), 198);
+        x.image(false);
+        faulty(0, full + "+", 1, 400);
         // a text with a fault leaves the old one
         stands(x, 0, "hold 7;", 1);
         due("text(0)", text(x, 0, "hold 9;hold"), -1);
@@ -278,6 +290,15 @@ public final class PromisesTest {
         faulty(0, "hold 1", 1, 6);
         faulty(0, " Hold 1;", 1, 1);
         faulty(0, "holds 1;", 1, 0);
+        faulty(0, "holdz 1;", 1, 0);
+        faulty(0, "holda 1;", 1, 0);
+        faulty(0, "holdZ 1;", 1, 0);
+        faulty(0, "holdA 1;", 1, 0);
+        faulty(0, "hold[1;", 1, 4);
+        faulty(0, "hold@1;", 1, 4);
+        faulty(0, "hold{1;", 1, 4);
+        faulty(0, "hold`1;", 1, 4);
+        faulty(0, "hold 1:", 1, 6);
         faulty(0, "hold 1;;", 1, 7);
         faulty(0, "hold 123456;", 1, 5);
         faulty(0, "hold 1 2;", 1, 7);
@@ -362,6 +383,10 @@ public final class PromisesTest {
         no("cash(0, 0, 1) on a Sunday", x.cash(0, 0, 1));
         x.day();
         yes("cash(0, 0, 1) on a Monday", x.cash(0, 0, 1));
+        text(x, 3, "limit 9 when weekday=0 and house=4;");
+        yes("cash(4, 3, -9) on a Monday", x.cash(4, 3, -9));
+        x.day();
+        no("cash(4, 3, -9) on a Tuesday", x.cash(4, 3, -9));
         NowhereMoney y = new NowhereMoney();
         text(y, 0, "limit 500;");
         yes("cash(0, 0, -500)", y.cash(0, 0, -500));
@@ -831,6 +856,7 @@ public final class PromisesTest {
         due("growth(666666666, 500, 1)", x.growth(666666666, 500, 1), 999999999);
         due("growth(666666664, 500, 1)", x.growth(666666664, 500, 1), 999999996);
         due("growth(0, 500, 60)", x.growth(0, 500, 60), 0);
+        due("growth(7000, 0, 60)", x.growth(7000, 0, 60), 7000);
         due("growth(-1, 1, 1)", x.growth(-1, 1, 1), -1);
         due("growth(1000000000, 1, 1)", x.growth(1000000000, 1, 1), -1);
         due("growth(1, 501, 1)", x.growth(1, 501, 1), -1);
@@ -1085,6 +1111,21 @@ public final class PromisesTest {
         due("ending(2, 2)", x.ending(2, 2), 10);
         due("ending(3, 2)", x.ending(3, 2), 50);
         due("ending(-1, 0)", x.ending(-1, 0), 2);
+        // a fee for what is below 70 alone: the greatest first costs three, the others two
+        text(x, 0, "fee 30 when amount<70;fee 100;");
+        due("ending(0, 2): 90 is returned", x.ending(0, 2), 120);
+        due("ending(1, 2): 60, 40 and 10 are", x.ending(1, 2), 80);
+        due("ending(2, 2): 60 and 90 are", x.ending(2, 2), 80);
+        due("ending(3, 2)", x.ending(3, 2), 120);
+        due("ending(-1, 0): the first of equals", x.ending(-1, 0), 1);
+        text(x, 0, "fee 30 when amount<70;fee 90;");
+        due("ending(2, 2)", x.ending(2, 2), 70);
+        due("ending(-1, 0): not the first that is less", x.ending(-1, 0), 2);
+        text(x, 0, "fee 20 when amount<70;fee 90;");
+        due("ending(0, 2)", x.ending(0, 2), 90);
+        due("ending(1, 2)", x.ending(1, 2), 50);
+        due("ending(2, 2)", x.ending(2, 2), 60);
+        due("ending(-1, 0): 2 is less than 0, but not than 1", x.ending(-1, 0), 1);
         // by the house that drew: house 0 pays house 1 and itself is asked first, at any number
         NowhereMoney y = new NowhereMoney();
         text(y, 0, "fee 7 when count=0;");
@@ -1319,6 +1360,12 @@ public final class PromisesTest {
                 due("seen(" + bad + ")", x.seen(bad), -1);
             }
         }
+        // the least gross there is, within one bank
+        NowhereMoney z = new NowhereMoney();
+        z.cash(0, 0, 1);
+        z.pay(0, 0, 0, 0, 1);
+        z.day();
+        due("seen(1000)", z.seen(1000), 1);
         // sums whose thousandfold is above an int
         NowhereMoney y = new NowhereMoney();
         y.cash(0, 0, 999999);
@@ -1390,6 +1437,11 @@ public final class PromisesTest {
     private static void p37Image() {
         NowhereMoney x = apart();
         no("image(false): there is none", x.image(false));
+        x.image(true);
+        x.town(1, 0);
+        x.image(false);
+        due("flight(0, 1, 0): towns", x.flight(0, 1, 0), 2);
+        x.rail(0, 2, 3);
         text(x, 0, "hold 3;fee 2;");
         text(x, 4, "cry when count>0;");
         x.told(1, 9, true);
@@ -1433,7 +1485,10 @@ public final class PromisesTest {
             due("flight(0, 1, 8): snow on 9", x.flight(0, 1, 8), 3);
             due("flight(0, 3, 2): 3 is not closed", x.flight(0, 3, 2), 1);
             due("payFloat(0, 20)", x.payFloat(0, 20), 0);
-            due("payFloat(0, 0)", x.payFloat(0, 0), 20);
+            due("payFloat(0, 0): from town 1", x.payFloat(0, 0), 20);
+            due("flight(0, 2, 1): rail", x.flight(0, 2, 1), 3);
+            due("burnt(0, 0, 0, 0): cash", x.burnt(0, 0, 0, 0), 100);
+            due("sums(3)", x.sums(3), 0);
             due("sign(0, 1, 7)", x.sign(0, 1, 7), 1);
             due("ending(0, 1)", x.ending(0, 1), 1);
             x.pay(2, 0, 3, 0, 7);

@@ -79,6 +79,9 @@ public final class WildTest {
                 for (int i = 0; i < 1500; i++) {
                     x.cash(i % 6, i % 4, 999999);
                 }
+                for (int k = 0; k < 50 * seed; k++) {
+                    x.pay(k % 6, k % 3, k % 4, 1 + k % 3, 100 * k + 1);
+                }
                 for (int i = 0; i < 8000; i++) {
                     all = all * 31 + test.call(x, test.random.nextInt(37));
                 }

@@ -141,6 +141,9 @@ public final class PromisesTest {
         yes("told(0, 1, false)", x.told(0, 1, false));
         due("flight(0, 0, 0)", x.flight(0, 0, 0), 1);
         yes("told(1, 2, true)", x.told(1, 2, true));
+        yes("told(1, 2, false)", x.told(1, 2, false));
+        due("flight(0, 1, 0)", x.flight(0, 1, 0), 2);
+        yes("told(1, 2, true)", x.told(1, 2, true));
         due("flight(0, 1, 0)", x.flight(0, 1, 0), 3);
         due("flight(0, 1, 2): snow hinders no business", x.flight(0, 1, 2), 2);
         days(x, 3);
@@ -977,6 +980,10 @@ public final class PromisesTest {
         due("cries(8, 0)", x.cries(8, 0), 0);
         due("cries(8, 3)", x.cries(8, 3), 3);
         due("cries(8, 4): without cries", x.cries(8, 4), -1);
+        x.kiters(1);
+        due("cries(6, 4): one of four", x.cries(6, 4), 250);
+        x.kiters(3);
+        due("cries(6, 4): two of four", x.cries(6, 4), 500);
         x.kiters(63);
         due("cries(2, 4)", x.cries(2, 4), 1000);
         x.kiters(0);
@@ -999,6 +1006,7 @@ public final class PromisesTest {
         }
         due("like(0, 2, 0): 10, 42 and 21", x.like(0, 2, 0), 3);
         due("like(0, 2, 1): 42 and 21", x.like(0, 2, 1), 2);
+        due("like(5, 2, 0): 21, 10 and 42", x.like(5, 2, 0), 3);
         x.kiters(0b100001);
         due("like(0, 2, 0) with kiters", x.like(0, 2, 0), 2);
         due("like(0, 2, 1) with kiters", x.like(0, 2, 1), 1);
@@ -1126,6 +1134,17 @@ public final class PromisesTest {
         due("ending(1, 2)", x.ending(1, 2), 50);
         due("ending(2, 2)", x.ending(2, 2), 60);
         due("ending(-1, 0): 2 is less than 0, but not than 1", x.ending(-1, 0), 1);
+        // of several that are equal the first by number is asked for first: the second one comes back,
+        // to a house that has drawn it already
+        NowhereMoney z = new NowhereMoney();
+        z.cash(1, 0, 50);
+        z.pay(1, 0, 2, 1, 50);
+        z.pay(1, 0, 3, 2, 50);
+        z.cash(3, 2, -50);
+        for (int order = 0; order < 4; order++) {
+            due("ending(" + order + ", 2) of equals", z.ending(order, 2), 50);
+            due("ending(" + order + ", 12) of equals", z.ending(order, 12), 50);
+        }
         // by the house that drew: house 0 pays house 1 and itself is asked first, at any number
         NowhereMoney y = new NowhereMoney();
         text(y, 0, "fee 7 when count=0;");
@@ -1198,6 +1217,20 @@ public final class PromisesTest {
         due("snowed() on 88", y.snowed(), 89);
         y.day();
         due("snowed() on 89", y.snowed(), -1);
+        // snow on 91 would cost 100, but there is no such day
+        NowhereMoney z = new NowhereMoney();
+        z.town(1, 1);
+        z.town(2, 2);
+        z.town(3, 1);
+        days(z, 88);
+        z.rail(1, 2, 0);
+        z.pay(0, 2, 0, 1, 100);
+        z.rail(1, 2, 2);
+        z.day();
+        z.pay(0, 1, 1, 3, 100);
+        due("cheque(0, 7)", z.cheque(0, 7), 2);
+        due("ending(0, 1)", z.ending(0, 1), 1);
+        due("snowed() on 89", z.snowed(), -1);
     }
 
     private static void p30Far() {
@@ -1398,6 +1431,12 @@ public final class PromisesTest {
         due("burnt(0, 2, 9, 1)", x.burnt(0, 2, 9, 1), 655 + 2 * 9);
         due("burnt(3, 4, 0, 0): paid by bank 0", x.burnt(3, 4, 0, 0), 500 - 70 + 300);
         due("burnt(0, 4, 0, 0)", x.burnt(0, 4, 0, 0), -5);
+        x.image(true);
+        x.pay(4, 0, 2, 3, 9999);
+        x.day();
+        due("sums(3)", x.sums(3), 15);
+        x.image(false);
+        due("sums(3)", x.sums(3), 10);
         days(x, 6);
         // days 1 .. 7, of which 3 is closed and 6 a Sunday
         due("burnt(0, 2, 99999, 1)", x.burnt(0, 2, 99999, 1), 655 + 5 * 99999);

@@ -1,11 +1,17 @@
 import java.io.IOException;
+import java.lang.reflect.Array;
 import java.lang.reflect.Constructor;
 import java.lang.reflect.Field;
 import java.lang.reflect.Method;
 import java.lang.reflect.Modifier;
 import java.nio.file.Files;
 import java.nio.file.Path;
+import java.util.Collections;
+import java.util.HashMap;
 import java.util.HashSet;
+import java.util.IdentityHashMap;
+import java.util.LinkedHashSet;
+import java.util.Map;
 import java.util.Set;
 import java.util.TreeSet;
 import java.util.regex.Matcher;
@@ -120,6 +126,8 @@ public final class LanguageTest {
                 wrong("in the program stands " + m.group());
             }
         }
+        making(s.split("\n"));
+        depth(s.split("\n"));
         int start = -1;
         String[] lines = source.split("\n");
         for (int i = 0; i < lines.length; i++) {
@@ -135,9 +143,99 @@ public final class LanguageTest {
         }
     }
 
-    public static void main(String[] args) throws IOException {
+    /** Rows are made with an object alone: no call makes anything, so a run takes what one object takes. */
+    private static void making(String[] lines) {
+        boolean inConstructor = false;
+        for (String line : lines) {
+            if (line.matches("( {4}| {8})(?! ).*\\) \\{")) {
+                inConstructor = line.matches(" +(public )?[A-Z]\\w*\\(.*\\) \\{");
+            }
+            boolean isField = line.matches(" {8}final [\\w\\[\\]]+ \\w+ = new .*;");
+            if (line.contains("new ") && !isField && !inConstructor) {
+                wrong("something is made by a call: " + line.trim());
+            }
+        }
+    }
+
+    /** The methods by name, and the names that each calls; a name that two classes have counts as one. */
+    private static Map<String, Set<String>> calls(String[] lines) {
+        Map<String, Set<String>> calls = new HashMap<>();
+        Set<String> current = new TreeSet<>();
+        String type = "(?:[\\w\\[\\]]+ )*";
+        Pattern head = Pattern.compile("( {4}| {8})(?! |if|for|while|switch|return)" + type + "(\\w+)\\(.*\\) \\{");
+        Pattern call = Pattern.compile("\\b(\\w+)\\(");
+        for (String line : lines) {
+            Matcher m = head.matcher(line);
+            if (m.matches()) {
+                current = calls.computeIfAbsent(m.group(2), name -> new TreeSet<>());
+                continue;
+            }
+            for (Matcher c = call.matcher(line); c.find();) {
+                current.add(c.group(1));
+            }
+        }
+        calls.values().forEach(names -> names.retainAll(calls.keySet()));
+        return calls;
+    }
+
+    private static void goDeeper(Map<String, Set<String>> calls, String name, Set<String> open) {
+        open.add(name);
+        if (open.size() > 8) {
+            wrong("calls go too deep: " + open);
+        } else {
+            for (String next : calls.get(name)) {
+                if (!open.contains(next)) {
+                    goDeeper(calls, next, open);
+                }
+            }
+        }
+        open.remove(name);
+    }
+
+    private static void depth(String[] lines) {
+        Map<String, Set<String>> calls = calls(lines);
+        if (calls.size() < 100) {
+            wrong("only " + calls.size() + " methods were found");
+        }
+        for (String name : calls.keySet()) {
+            goDeeper(calls, name, new LinkedHashSet<>());
+        }
+    }
+
+    /** All that hangs on an object, counted as the room counts it: far less than it holds. */
+    private static long weight(Object thing, Set<Object> met) throws IllegalAccessException {
+        if (thing == null || !met.add(thing)) {
+            return 0;
+        }
+        long sum = 1;
+        if (thing.getClass().isArray()) {
+            int length = Array.getLength(thing);
+            for (int i = 0; i < length && thing instanceof Object[]; i++) {
+                sum += weight(Array.get(thing, i), met);
+            }
+            return sum + length;
+        }
+        for (Field f : thing.getClass().getDeclaredFields()) {
+            if (!Modifier.isStatic(f.getModifiers())) {
+                f.setAccessible(true);
+                sum += 1 + (f.getType().isPrimitive() ? 0 : weight(f.get(thing), met));
+            }
+        }
+        return sum;
+    }
+
+    private static void room() throws IllegalAccessException {
+        Set<Object> met = Collections.newSetFromMap(new IdentityHashMap<>());
+        long weight = weight(new NowhereMoney(), met);
+        if (weight < 20000 || weight > 100000 || met.size() > 1000) {
+            wrong("an object takes " + weight + " fields and elements in " + met.size() + " objects");
+        }
+    }
+
+    public static void main(String[] args) throws IOException, IllegalAccessException {
         face();
         source();
+        room();
         System.out.println(wrong == 0 ? "the program keeps to its language" : wrong + " faults");
         if (wrong != 0) {
             System.exit(1);

@@ -4,6 +4,7 @@ import java.util.ArrayList;
 import java.util.HashMap;
 import java.util.List;
 import java.util.Map;
+import java.util.Set;
 
 /**
  * A run of calls on a new object. A call is told as a text, its name and then its numbers ("pay 0 1 2 3
@@ -43,6 +44,11 @@ final class Run {
             }
         }
         return face;
+    }
+
+    /** The names of all calls of the face. */
+    static Set<String> names() {
+        return FACE.keySet();
     }
 
     int calls() {
